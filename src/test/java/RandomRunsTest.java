@@ -47,7 +47,9 @@ public final class RandomRunsTest {
     private void text() {
         for (int tries = 0; tries < 4; tries++) {
             String text = Texts.make(r);
-            if (r.nextInt(2) == 0) text = Texts.spoil(r, text);
+            int spoilt = r.nextInt(6);
+            if (spoilt > 3) text = Texts.wild(r);
+            if (spoilt > 2 && spoilt < 5) text = Texts.spoil(r, text);
             for (int[] f : Texts.feeds(text)) {
                 due("feed", x.feed(f[0], f[1], f[2], f[3], f[4]), y.feed(f[0], f[1], f[2], f[3], f[4]));
             }

@@ -70,6 +70,37 @@ final class Texts {
         return text.toString();
     }
 
+    /** LINES that the grammar allows, with numbers of which some can't be, and sometimes too many of them. */
+    static String wild(Random r) {
+        StringBuilder text = new StringBuilder();
+        int seldom = 2 + r.nextInt(60);
+        int kinds = 1 + r.nextInt(10);
+        int shift = r.nextInt(10);
+        for (int lines = r.nextInt(60); lines > 0; lines--) {
+            int kind = (shift + r.nextInt(kinds)) % 10;
+            String line = switch (kind) {
+                case 0 -> "board " + odd(r, seldom, 0, 9 - Math.min(9, text.length() / 8), 100);
+                case 1 -> "bidder " + odd(r, seldom, 0, 99, 100) + " " + odd(r, seldom, 0, 99, 100);
+                case 2 -> "mark " + odd(r, seldom, 0, 2, 7) + " " + odd(r, seldom, 1, 9, 10);
+                case 3 -> "purse " + odd(r, seldom, 0, 2, 7) + " " + r.nextInt(10000);
+                case 4 -> "extra " + odd(r, seldom, 0, 2, 7) + " " + odd(r, seldom, 0, 2, 6) + sign(r) + odd(r, seldom, 0, 999, 1000);
+                case 5 -> "sort " + odd(r, seldom, 0, 2, 7) + " " + odd(r, seldom, 0, 99, 100) + " " + odd(r, seldom, 1, 9, 10);
+                case 6 -> "friend " + odd(r, seldom, 0, 1, 7) + " " + odd(r, seldom, 1, 2, 7) + sign(r) + odd(r, seldom, 0, 999, 1000);
+                case 7 -> "foe " + odd(r, seldom, 0, 1, 7) + " " + odd(r, seldom, 1, 2, 7);
+                case 8 -> "way " + new String[] {"own", "next", "harm"}[r.nextInt(3)];
+                default -> "bar " + odd(r, seldom, 0, 99, 100);
+            };
+            if (text.length() + line.length() + 1 <= 500) text.append(line).append(r.nextInt(9) == 0 ? " ;\n" : ";");
+        }
+        String start = r.nextInt(3) == 0 ? "" : "board 9;bidder 5 5;bidder 6 6;bidder 7 7;";
+        String whole = start + text;
+        return whole.length() > 500 ? whole.substring(0, whole.lastIndexOf(';', 499) + 1) : whole;
+    }
+
+    private static int odd(Random r, int seldom, int least, int most, int wrong) {
+        return r.nextInt(seldom) == 0 ? r.nextBoolean() ? wrong : r.nextInt(2 * wrong) : least + r.nextInt(most - least + 1);
+    }
+
     /** The same text with something put in, taken out or changed. */
     static String spoil(Random r, String text) {
         StringBuilder spoilt = new StringBuilder(text);
