@@ -682,6 +682,10 @@ public final class RoadBoards {
         private static final int MORE = 24;
         private static final int LESS = 25;
 
+        /** In the order of their kinds, from BOARD on, a blank behind each. */
+        private static final String WORDS =
+            "board bidder mark purse extra sort friend foe way bar own next harm more less ";
+
         private static final int NO_TEXT = 1;
         private static final int WRONG_NUMBER = 2;
         private static final int TOO_MANY = 3;
@@ -770,61 +774,24 @@ public final class RoadBoards {
         }
 
         private static int wordOf(State state, int from, int to) {
-            if (spells(state, from, to, "board")) {
-                return BOARD;
+            int word = BOARD;
+            int first = 0;
+            for (int k = 0; k < WORDS.length(); k++) {
+                if (WORDS.charAt(k) == ' ') {
+                    if (k - first == to - from && spells(state, from, first, k)) {
+                        return word;
+                    }
+                    word++;
+                    first = k + 1;
+                }
             }
-            if (spells(state, from, to, "bidder")) {
-                return BIDDER;
-            }
-            if (spells(state, from, to, "mark")) {
-                return MARK;
-            }
-            if (spells(state, from, to, "purse")) {
-                return PURSES;
-            }
-            if (spells(state, from, to, "extra")) {
-                return EXTRA;
-            }
-            if (spells(state, from, to, "sort")) {
-                return SORT;
-            }
-            if (spells(state, from, to, "friend")) {
-                return FRIEND;
-            }
-            if (spells(state, from, to, "foe")) {
-                return FOE;
-            }
-            return lesserWordOf(state, from, to);
+            return STRANGE;
         }
 
-        private static int lesserWordOf(State state, int from, int to) {
-            if (spells(state, from, to, "way")) {
-                return WAY;
-            }
-            if (spells(state, from, to, "bar")) {
-                return BAR;
-            }
-            if (spells(state, from, to, "own")) {
-                return WAY_OWN;
-            }
-            if (spells(state, from, to, "next")) {
-                return WAY_NEXT;
-            }
-            if (spells(state, from, to, "harm")) {
-                return WAY_HARM;
-            }
-            if (spells(state, from, to, "more")) {
-                return MORE;
-            }
-            return spells(state, from, to, "less") ? LESS : STRANGE;
-        }
-
-        private static boolean spells(State state, int from, int to, String word) {
-            if (word.length() != to - from) {
-                return false;
-            }
-            for (int k = from; k < to; k++) {
-                if (state.tape[k] != word.charAt(k - from)) {
+        /** Has the tape from here on the signs of WORDS from first on, up to behind? */
+        private static boolean spells(State state, int from, int first, int behind) {
+            for (int k = first; k < behind; k++) {
+                if (state.tape[from + k - first] != WORDS.charAt(k)) {
                     return false;
                 }
             }
@@ -988,7 +955,7 @@ public final class RoadBoards {
 
         private int takeOther(int one) {
             int where = starts[at];
-            int other = takeBidder();
+            int other = takeNumber(0, made.bidders - 1);
             if (other != NONE && other == one) {
                 note(WRONG_NUMBER, where);
             }
@@ -1060,6 +1027,8 @@ public final class RoadBoards {
         final int[] who = new int[BIDDERS + 1];
         final int[] bids = new int[BIDDERS + 1];
         final int[] marks = new int[BIDDERS + 1];
+        /** 0 behind the line, for as many as there may be BOARDS. */
+        final int[] scores = new int[BIDDERS + 1 + BOARDS];
         int boards;
         int way;
         int bar;
@@ -1072,6 +1041,9 @@ public final class RoadBoards {
             length = 0;
             for (int j = 0; j < BOARDS; j++) {
                 pass[j] = j < boards ? sale.pass[j] : 0;
+            }
+            for (int p = 0; p <= BIDDERS; p++) {
+                scores[p] = 0;
             }
         }
 
@@ -1098,10 +1070,12 @@ public final class RoadBoards {
                 who[q] = who[q - 1];
                 bids[q] = bids[q - 1];
                 marks[q] = marks[q - 1];
+                scores[q] = scores[q - 1];
             }
             who[p] = bidder;
             bids[p] = bid;
             marks[p] = mark;
+            scores[p] = bid * mark;
             length++;
             return p;
         }
@@ -1115,7 +1089,9 @@ public final class RoadBoards {
                 who[q] = who[q + 1];
                 bids[q] = bids[q + 1];
                 marks[q] = marks[q + 1];
+                scores[q] = scores[q + 1];
             }
+            scores[length] = 0;
         }
 
         /** Those who bid less than this stand in the line no more. */
@@ -1144,7 +1120,7 @@ public final class RoadBoards {
         int placeFrom(int place, int bidder, int score) {
             int p = Math.min(place, length);
             while (p > 0) {
-                int his = bids[p - 1] * marks[p - 1];
+                int his = scores[p - 1];
                 if (his > score || his == score && who[p - 1] < bidder) {
                     break;
                 }
@@ -1171,16 +1147,12 @@ public final class RoadBoards {
             return NONE;
         }
 
-        int scoreAt(int p) {
-            return p >= 0 && p < length ? bids[p] * marks[p] : 0;
-        }
-
         /** PAY of who stands on a BOARD, 0 where nobody does. */
         int payAt(int board) {
             if (board < 0 || board >= countStanding()) {
                 return 0;
             }
-            return Math.max(bar * pass[board], askAt(board));
+            return Math.max(bar * pass[board], askFor(board, bids[board], marks[board], board + 1));
         }
 
         /**
@@ -1188,22 +1160,18 @@ public final class RoadBoards {
          * behind him are the line's from a place on, as he himself need not be in it.
          */
         private int askFor(int board, int bid, int mark, int behind) {
-            if (way == OWN) {
+            // No MARK is below 1: this keeps the divisions safe.
+            if (way == OWN || mark < 1) {
                 return bid * pass[board];
             }
             if (way == NEXT) {
-                return pass[board] * Math.max(1, leastTimes(mark, scoreAt(behind)));
+                return pass[board] * Math.max(1, (scores[behind] + mark - 1) / mark);
             }
             int sum = 0;
             for (int k = board; k < boards; k++) {
-                sum += (pass[k] - pass[k + 1]) * scoreAt(behind + k - board);
+                sum += (pass[k] - pass[k + 1]) * scores[behind + k - board];
             }
-            return leastTimes(mark, sum);
-        }
-
-        /** The least whole number that times the mark is at least so much. */
-        private static int leastTimes(int mark, int much) {
-            return mark < 1 ? 0 : (much + mark - 1) / mark;
+            return (sum + mark - 1) / mark;
         }
 
         int allPays() {
@@ -1314,8 +1282,17 @@ public final class RoadBoards {
                     }
                 }
             }
-            line.putIn(bidder, bids[bidder], sale.mark[bidder]);
-            return most > line.gainOf(sale, bidder);
+            return most > gainNow(sale, bidder);
+        }
+
+        /** GAIN of his BID while the line is that of the others. */
+        private int gainNow(Sale sale, int bidder) {
+            int bid = bids[bidder];
+            if (!line.admits(bid)) {
+                return 0;
+            }
+            int place = line.placeFrom(line.length, bidder, bid * sale.mark[bidder]);
+            return line.gainIfHeBids(sale, bidder, bid, place);
         }
 
         int firstRestless(Sale sale, int top) {

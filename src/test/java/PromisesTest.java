@@ -158,6 +158,17 @@ public final class PromisesTest {
         fault(ok + "bar 1 1;", 1, 25);
         fault(ok + "bar;", 1, 22);
         fault(ok + "bars 1;", 1, 19);
+        fault(ok + "barz 1;", 1, 19);
+        fault(ok + "bara 1;", 1, 19);
+        for (char c : "`{/:\t\r\0@[".toCharArray()) fault(ok + "bar" + c + " 1;", 1, 22);
+        fault(ok + "bar 1/", 1, 24);
+        fault(ok + "bar 1:", 1, 24);
+        fault(";".repeat(500), 1, 0);
+        fault(ok + " ".repeat(481), 0, -1);
+        fault(ok + " ".repeat(480) + "z", 1, 499);
+        fault(ok + "bar" + " ".repeat(478), 1, 500);
+        fault(" ".repeat(500), 5, 500);
+        fault("7;".repeat(250), 1, 0);
         fault(ok + "bar 00001;", 1, 23);
         fault(ok + "bar 1" + (char) 233 + ";", 1, 24);
         fault(ok + "way 1;", 1, 23);
@@ -678,6 +689,15 @@ public final class PromisesTest {
         // A BAR of 4: BIDS of 3 fall; 4 wins 2 parts of 3.
         due(35, "own with a BAR", x.guess(0, 0, false), 4);
         due(35, "own with a BAR", x.guess(0, 0, true), 40);
+        // BIDS of 3 (1 part) or 5 (2 parts): 3 gains 60 once, 5 gains 40 thrice.
+        RoadBoards y = with("board 10;bidder 9 1;bidder 9 0;sort 1 3 1;sort 1 5 2;way own;",
+            "board 1;bidder 99 1;bidder 9 0;sort 1 98 1;extra 0 0 more 999;mark 1 1;",
+            "board 1;bidder 9 0;bidder 99 1;sort 0 98 1;extra 1 0 more 999;way own;");
+        due(35, "two thresholds", y.guess(0, 0, false), 5);
+        due(35, "two thresholds", y.guess(0, 0, true), 120);
+        due(35, "98 is enough for the lesser", y.guess(1, 0, false), 98);
+        due(35, "the other one needs 99", y.guess(2, 1, false), 99);
+        due(35, "the other one needs 99", y.guess(2, 1, true), 999);
         due(35, "guess(0, 2)", x.guess(0, 2, false), -4000000000000000000L);
         due(35, "guess(0, -1)", x.guess(0, -1, true), -4000000000000000000L);
         due(35, "guess(1, 0)", x.guess(1, 0, false), -4000000000000000000L);
@@ -701,6 +721,26 @@ public final class PromisesTest {
         due(36, "pair(0, 0, 1, 3)", x.pair(0, 0, 1, 3), -100000);
         due(36, "pair(0, 0, 1, -1)", x.pair(0, 0, 1, -1), -100000);
         due(36, "pair(1, 0, 1, 0)", x.pair(1, 0, 1, 0), -100000);
+        // A BAR of 5: 0 and 1 pay 5 for each that passes.
+        x.rule(0, 1, 5);
+        due(36, "with a BAR", x.pair(0, 0, 1, 0), 70 - 50 + 24 - 20);
+        due(36, "with a BAR", x.pair(0, 0, 1, 1), 5);
+        due(36, "with a BAR", x.pair(0, 0, 1, 2), 5);
+        due(36, "with a BAR", x.pair(0, 1, 2, 0), 24 - 20);
+        due(36, "with a BAR", x.pair(0, 1, 2, 1), 5);
+        due(36, "with a BAR", x.pair(0, 1, 2, 2), 0);
+        // Against 98 of a lesser one 99 is needed.
+        RoadBoards z = with("board 1;bidder 1 98;bidder 1 1;bidder 1 1;extra 1 0 more 500;extra 2 0 more 900;way own;");
+        due(36, "99", z.pair(0, 1, 2, 0), 901 - 99);
+        due(36, "99", z.pair(0, 1, 2, 1), 0);
+        due(36, "99", z.pair(0, 1, 2, 2), 99);
+        due(36, "1 is the lesser of two who bid 1", z.pair(0, 0, 1, 0), 500);
+        due(36, "1 is the lesser of two who bid 1", z.pair(0, 0, 1, 1), 0);
+        due(36, "1 is the lesser of two who bid 1", z.pair(0, 0, 1, 2), 1);
+        RoadBoards w = with("board 1;bidder 1 98;bidder 1 1;bidder 1 1;extra 1 0 more 900;extra 2 0 more 500;way own;");
+        due(36, "99 of the lesser", w.pair(0, 1, 2, 0), 901 - 99);
+        due(36, "99 of the lesser", w.pair(0, 1, 2, 1), 99);
+        due(36, "99 of the lesser", w.pair(0, 1, 2, 2), 0);
         // Nothing is gained: the least row.
         RoadBoards y = with("board 10;bidder 0 7;bidder 0 6;");
         for (int what = 0; what < 3; what++) due(36, "pair", y.pair(0, 0, 1, what), 0);
