@@ -94,12 +94,13 @@ public final class RoadBoards {
         now.place = NONE;
         boolean further = at == NONE;
         if (further ? now.count >= SALES : saleAt(at) == null) {
+            now.length = 0;
             return NO_SUCH_SALE;
         }
         reader.readText(now);
+        now.length = 0;
         now.fault = reader.fault;
         now.place = reader.place;
-        now.length = 0;
         if (now.fault != 0) {
             return NONE;
         }

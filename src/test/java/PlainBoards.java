@@ -95,11 +95,12 @@ final class PlainBoards {
     }
 
     int sale(int at) {
+        List<Byte> tape = now.tape;
+        now.tape = new ArrayList<>();
         now.fault = 0;
         now.place = NONE;
         if (at == NONE ? now.sales.size() == 3 : at < 0 || at >= now.sales.size()) return -2;
-        PlainText text = new PlainText(now.tape);
-        now.tape.clear();
+        PlainText text = new PlainText(tape);
         now.fault = text.fault;
         now.place = text.place;
         if (text.fault != 0) return NONE;

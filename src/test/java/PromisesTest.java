@@ -108,18 +108,30 @@ public final class PromisesTest {
         due(5, "fault(-1)", x.fault(-1), -1);
         due(4, "about(0, 10)", x.about(0, 10), 6);
         due(4, "end(1)", x.end(1), -1);
-        // No text is read where there is no such SALE: the tape stays, FAULT is 0.
+        // No text is read where there is no such SALE, FAULT is 0; but the tape is taken.
         Texts.put(x, "board 8;bidder 1 1;");
         due(4, "sale(2)", x.sale(2), -2);
         due(5, "fault(0)", x.fault(0), 0);
         due(5, "fault(1)", x.fault(1), -1);
+        due(4, "end(1)", x.end(1), -1);
+        due(4, "feed", x.feed(0, 0, 0, 0, 0), 20);
+        due(4, "sale(-2)", x.sale(-2), -2);
+        due(4, "end(1)", x.end(1), -1);
+        Texts.put(x, "board 8;bidder 1 1;");
         due(4, "sale(-1)", x.sale(-1), 1);
         due(4, "about(1, 10)", x.about(1, 10), 8);
         Texts.put(x, "board 9;bidder 1 1;");
         due(4, "sale(-1)", x.sale(-1), 2);
         due(40, "count()", x.count(), 3);
+        // There are 3: the tape is taken then, too.
+        Texts.put(x, "board;");
         due(4, "sale(-1)", x.sale(-1), -2);
+        due(5, "fault(0)", x.fault(0), 0);
+        due(5, "fault(1)", x.fault(1), -1);
+        due(4, "end(1)", x.end(1), -1);
+        Texts.put(x, "board 4;bidder 2 1;");
         due(4, "sale(3)", x.sale(3), -2);
+        due(4, "end(1)", x.end(1), -1);
         Texts.put(x, "board 3;bidder 2 1;");
         due(4, "sale(2)", x.sale(2), 2);
         due(4, "about(2, 10)", x.about(2, 10), 3);

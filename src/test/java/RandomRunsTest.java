@@ -59,6 +59,7 @@ public final class RandomRunsTest {
             due("sale " + text, x.sale(at), y.sale(at));
             due("fault", x.fault(0), y.fault(0));
             due("place " + text, x.fault(1), y.fault(1));
+            due("tape taken", x.end(1), y.end(1));
         }
         for (int s = -1; s < 4; s++) {
             for (int what = -2; what < 72; what++) due("about", x.about(s, what), y.about(s, what));
