@@ -143,7 +143,9 @@ public final class BoundariesOfBidsTest {
         duePays("a BAR below asks no more", x, 9801, 0);
         x.bid(0, 0, 1);
         x.rule(0, 0, 0);
-        duePays("1 stands second", x, 0, 98 * 99);
+        duePays("0 stands second", x, 0, 98 * 99);
+        RoadBoards y = s.with("board 9;board 5;board 1;bidder 9 2;bidder 9 3;bidder 9 4;way own;");
+        duePays("each his own BID", y, 2, 15, 36);
     }
 
     private static void payNext() {
@@ -294,6 +296,10 @@ public final class BoundariesOfBidsTest {
         RoadBoards last = s.with("board 1;board 1;board 1;board 1;board 1;board 1;" + "bidder 9 1;".repeat(7) + "way own;extra 6 5 more 1;");
         // 1 paid of each, a gain of 8: only 6, who stands nowhere, would rather; then BOARD 0 first.
         dueRather("the last BIDDER", last, 6, 0);
+        last.bid(0, 6, 0);
+        dueRather("who does not bid", last, 6, 0);
+        RoadBoards nobody = s.with("board 1;board 1;board 1;board 1;board 1;board 1;" + "bidder 1 1;".repeat(7) + "way own;");
+        dueRather("none of seven", nobody, -1, -1);
         s.says("Promise 13", "RATHER, or (board) the BOARD. NONE: there is none such.");
         for (int n : NO_SALES) {
             s.due("rather(" + n + ", false)", u.rather(n, false), -1);
@@ -329,6 +335,11 @@ public final class BoundariesOfBidsTest {
         s.due("reply(0, 6)", seven.reply(0, 6), 2);
         s.due("reply(0, 7)", seven.reply(0, 7), -1);
         s.due("BIDS are as they were", seven.about(0, 36), 1);
+        RoadBoards full = s.with("board 9;board 8;board 7;board 6;board 5;board 4;" + "bidder 9 9;".repeat(6) + "bidder 9 0;");
+        s.due("behind six on six BOARDS nothing is gained", full.reply(0, 6), 0);
+        full.bid(0, 0, 3);
+        // BOARD 5 by 4: 4 * (9 - 3).
+        s.due("ahead of the last of six", full.reply(0, 6), 4);
     }
 
     private static void replyOfSeveral() {

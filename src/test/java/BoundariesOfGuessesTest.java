@@ -60,6 +60,9 @@ public final class BoundariesOfGuessesTest {
         s.due("without the next one", x.without(0, 1), 10);
         s.due("without who does not bid", x.without(0, 2), 30);
         s.due("BIDS stay", x.take(0), 30);
+        x.rule(0, 1, 4);
+        s.due("without who stands, the others below the BAR", x.without(0, 0), 0);
+        s.due("without one below the BAR", x.without(0, 1), 40);
         s.due("without the only one", s.with(OK).without(0, 0), 0);
         s.due("with one more BOARD", s.with("board 10;board 10;bidder 9 5;bidder 9 3;bidder 9 2;way own;").without(0, 0), 50);
         s.says("Promise 34", "WITHOUT. NONE: there is none such (of either).");
@@ -96,6 +99,15 @@ public final class BoundariesOfGuessesTest {
         StringBuilder most = new StringBuilder("board 99;" + "bidder 99 0;".repeat(7) + "extra 0 0 more 999;");
         for (int i = 1; i < 7; i++) most.append(("sort " + i + " 1 9;").repeat(3));
         dueGuess("27 by 27, six times", s.with(most.toString()), 0, 1, 387420489L * 10701);
+        // 3 gains 60 of one part, 5 gains 40 of all three, 4 gains 50 of one.
+        dueGuess("own", s.with("board 10;bidder 9 1;bidder 9 0;sort 1 3 1;sort 1 5 2;way own;"), 0, 5, 120);
+        dueGuess("own", s.with("board 10;bidder 9 1;bidder 9 0;sort 1 3 3;sort 1 5 1;way own;"), 0, 3, 180);
+        // What was asked ahead counts for nothing.
+        RoadBoards after = s.with("board 10;bidder 0 50;bidder 9 50;way own;");
+        s.due("high(0)", after.high(0), 0);
+        dueGuess("nothing is gained", after, 0, 0, 0);
+        RoadBoards full = s.with("board 9;board 8;board 7;board 6;board 5;board 4;" + "bidder 9 9;".repeat(6) + "bidder 9 0;sort 0 9 2;");
+        dueGuess("behind six on six BOARDS", full, 6, 0, 0);
     }
 
     private static void guessAsked() {
@@ -125,6 +137,12 @@ public final class BoundariesOfGuessesTest {
         duePair("99 of a greater one", against, 0, 1, 900, 0, 99);
         duePair("99 of a lesser one", "board 1;bidder 0 99;bidder 9 0;bidder 0 0;extra 2 0 more 999;way own;", 1, 2, 0, 0, 0);
         duePair("98 of a lesser one", "board 1;bidder 0 98;bidder 9 0;bidder 0 0;extra 2 0 more 999;way own;", 1, 2, 900, 0, 99);
+        duePair("99 of the lesser one", against.replace("999", "400").replace("500", "999"), 0, 1, 900, 99, 0);
+        // Against 5 and 3: 0 by 5 gains 40, and 1 by 5 gains 20 beside him; 0 alone by 3 gains 30.
+        duePair("two among four", "board 10;board 5;bidder 9 0;bidder 9 0;bidder 0 5;bidder 0 3;", 0, 1, 40 + 20, 5, 5);
+        duePair("two among seven", "board 9;board 8;board 7;board 6;board 5;board 4;" + "bidder 9 9;".repeat(5) + "bidder 9 0;bidder 9 0;", 5, 6, 32, 0, 1);
+        // By harm: 1 on BOARD 0 for 9, 0 on BOARD 1 for nothing: 81 + 50.
+        duePair("the other one ahead", "board 10;board 1;bidder 0 0;bidder 9 0;extra 0 1 more 50;way harm;", 0, 1, 131, 1, 2);
         duePair("both by 1", "board 10;board 10;bidder 9 5;bidder 9 5;", 0, 1, 160, 1, 1);
         // BAR 4: both by 4. BAR 9: nothing is left.
         duePair("both by the BAR", "board 10;board 10;bidder 9 5;bidder 9 5;bar 4;", 0, 1, 100, 4, 4);
@@ -134,6 +152,11 @@ public final class BoundariesOfGuessesTest {
         duePair("either alone, harm", "board 10;bidder 9 5;bidder 9 5;way harm;", 0, 1, 90, 0, 1);
         duePair("the lesser one is worth more", "board 10;bidder 9 5;bidder 8 5;", 0, 1, 80, 1, 0);
         duePair("nothing is gained", "board 10;bidder 0 5;bidder 0 5;", 0, 1, 0, 0, 0);
+        RoadBoards after = s.with("board 10;board 10;bidder 9 5;bidder 9 5;", "board 10;bidder 0 5;bidder 0 5;");
+        for (int what = 0; what < 3; what++) {
+            s.due("something is gained", after.pair(0, 0, 1, what), what == 0 ? 160 : 1);
+            s.due("nothing is gained then", after.pair(1, 0, 1, what), 0);
+        }
         duePair("the last two", "board 10;" + "bidder 0 0;".repeat(5) + "bidder 5 0;bidder 9 0;", 5, 6, 80, 0, 1);
     }
 
@@ -203,6 +226,10 @@ public final class BoundariesOfGuessesTest {
         RoadBoards z = s.with("board 0;bidder 9 1;bidder 9 1;");
         s.due("who is worth nothing wants nothing", z.climb(0, 999, 0), 0);
         s.due("PRICES stay", x.judged(0), 1);
+        RoadBoards w = s.with("board 1;board 0;bidder 1 1;bidder 1 1;extra 0 1 more 3;extra 1 1 more 3;");
+        // Both want 1 alone for 3, till it costs 2: then 0 is as good.
+        s.due("the lesser BOARD", w.climb(0, 999, 0), 0);
+        s.due("the greater one", w.climb(0, 999, 1), 2);
     }
 
     private static void climbSets() {

@@ -157,6 +157,12 @@ public final class BoundariesOfTextsTest {
         s.says("Terms 1", "FOES may not.");
         s.due("foe", s.with(even + "foe 0 1;").beside(0, 0), 990);
         s.due("foe", s.with(even + "foe 1 0;").beside(0, 11), -100000);
+        String seven = "board 2;board 1;" + "bidder 0 0;".repeat(5) + "bidder 9 0;bidder 9 0;";
+        s.due("the last two", s.with(seven).beside(0, 0), 27);
+        s.due("the last two are FOES", s.with(seven + "foe 5 6;").beside(0, 0), 18);
+        s.due("the last two are FOES", s.with(seven + "foe 6 5;").beside(0, 11), 0);
+        s.due("the last two are FRIENDS", s.with(seven + "friend 6 5 more 1;").beside(0, 0), 28);
+        s.due("the last two are FRIENDS", s.with(seven + "friend 5 6 less 9;").beside(0, 0), 18);
     }
 
     private static void tokens() {
@@ -167,6 +173,8 @@ public final class BoundariesOfTextsTest {
         fault(OK + blanks + "bar 7", 1, 499);
         fault(OK + blanks + "bar 7#", 1, 499);
         fault(" ".repeat(500), 5, 500);
+        fault(";".repeat(500), 1, 0);
+        fault("7;".repeat(250), 1, 0);
         s.says("Terms 1", "TOKENS, as long as they go, blanks (10, 32) between");
         for (int c = 0; c < 256; c++) {
             boolean digit = c >= '0' && c <= '9';
@@ -330,6 +338,14 @@ public final class BoundariesOfTextsTest {
         fault(OK + "bar 1;".repeat(37) + "bar 100;bar 1;", 2, 245);
         fault(OK + "bar 1;".repeat(40), 3, 247);
         fault("board 9;" + "bar 1;".repeat(39) + "bidder 1 1;", 3, 242);
+        // LINES are counted anew in each text.
+        RoadBoards x = new RoadBoards();
+        for (int n = 0; n < 3; n++) {
+            Texts.put(x, OK + "bar 1;".repeat(39));
+            s.due("41 LINES", x.sale(-1), -1);
+            Texts.put(x, OK + "bar 1;".repeat(38));
+            s.due("40 LINES", x.sale(-1), n);
+        }
     }
 
     private static void faultFourAndFive() {
@@ -503,6 +519,18 @@ public final class BoundariesOfTextsTest {
         s.due("PRICE is 0", x.judged(2), -1);
         s.due("the others' PRICES stay", x.judged(1), 0);
         s.due("the others' PRICES stay", x.judged(0), -1);
+        // Nothing of the last BIDDER and BOARD is left either.
+        String last = SIX.replace("9", "0") + SEVEN.replace("1 1", "0 0");
+        RoadBoards y = s.with(last + "mark 6 9;purse 6 9;extra 6 5 more 99;sort 6 9 9;friend 6 5 more 99;foe 4 6;bar 9;way own;");
+        s.due("EXTRA", y.worth(0, 6, 5), 99);
+        s.due("FRIENDS", y.beside(0, 0), 198);
+        Texts.put(y, last);
+        s.due("sale(0)", y.sale(0), 0);
+        s.due("no MARK", y.about(0, 46), 1);
+        s.due("no PURSE", y.about(0, 56), 9999);
+        s.due("no SORTS", y.about(0, 66), 0);
+        s.due("no EXTRA", y.worth(0, 6, 5), 0);
+        s.due("no FRIENDS", y.beside(0, 0), 0);
     }
 
     private static void noSuchSale() {

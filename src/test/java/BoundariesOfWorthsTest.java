@@ -240,6 +240,10 @@ public final class BoundariesOfWorthsTest {
         s.due("most, own", most.rule(0, 0, 0), true);
         s.due("most, own", most.taken(0, 0), 387420489L * 58806);
         s.due("most, BAR 99", most.taken(0, 99), 387420489L * 58806);
+        RoadBoards all = s.with("board 99;" + "bidder 0 0;".repeat(7) + sorts(7, "99 9"));
+        s.due("all rows of seven", all.taken(0, 0), 10460353203L * 9801);
+        s.due("all rows of seven, BAR 99", all.taken(0, 99), 10460353203L * 9801);
+        s.due("the least of 0 .. 99", all.high(0), 0);
         s.says("Promise 25", "TAKEN with a BAR, in PARTS. NONE: there is none such (of either).");
         for (int bar : new int[] {-1, 100, LOW, HIGH}) s.due("taken(0, " + bar + ")", x.taken(0, bar), -1);
         for (int n : NO_SALES) s.due("taken(" + n + ", 0)", x.taken(n, 0), -1);
@@ -258,6 +262,32 @@ public final class BoundariesOfWorthsTest {
         s.due("by SORTS: 4 always, 8 half", s.with("board 9;bidder 1 50;sort 0 4 1;sort 0 8 1;").high(0), 4);
         s.due("by SORTS: 4 always, 9 half", s.with("board 9;bidder 1 50;sort 0 4 1;sort 0 9 1;").high(0), 9);
         s.due("the SALE's own BAR counts for nothing", s.with("board 9;bidder 1 7;bar 90;").high(0), 7);
+        s.due("one passes", s.with("board 1;bidder 1 7;").high(0), 7);
+        s.due("one passes, by harm", s.with("board 1;bidder 1 1;way harm;").high(0), 1);
+        s.due("as much behind him: 0 takes all", s.with("board 9;bidder 1 9;bidder 1 9;").high(0), 0);
+        s.due("as much behind him, harm", s.with("board 9;bidder 1 9;bidder 1 9;way harm;").high(0), 0);
+        s.due("8 behind 9: 9 takes more", s.with("board 9;bidder 1 9;bidder 1 8;").high(0), 9);
+        String seven = "bidder 1 %;bidder 1 6;bidder 1 5;bidder 1 4;bidder 1 3;bidder 1 2;bidder 1 1;";
+        s.due("above six others", s.with("board 9;" + seven.replace("%", "99")).high(0), 99);
+        // 2 .. 6 and 7 on six BOARDS: BAR 4 takes 4 * 4, BAR 3 takes 3 * 5.
+        s.due("the fourth of seven", s.with("board 9;".repeat(6) + seven.replace("%", "7") + "way harm;").high(0), 4);
+        // 4 of two parts, 9 of three, 3 behind them: BAR 4 takes 20 each time, BAR 9 takes 27. Of 4 and 1 parts: 20 and 9.
+        String by = "board 1;bidder 1 50;bidder 1 3;";
+        s.due("9 of three parts", s.with(by + "sort 0 4 2;sort 0 9 3;").high(0), 9);
+        s.due("9 of one part", s.with(by + "sort 0 4 4;sort 0 9 1;").high(0), 4);
+        // 0 stands first by his MARK, but goes first where the BAR is above 2.
+        s.due("the first one goes first", s.with("board 9;bidder 1 2;bidder 1 8;mark 0 9;").high(0), 8);
+        // 10 by 10 parts, 20 by one: all bid 10 in 10^7 parts, one bids 20 in 7 * 10^6. BAR 20 takes 20 for 10 in these, and
+        // nothing for 10 in those; the last row of all, 9^7 parts, tips it.
+        StringBuilder last = new StringBuilder("board 1;" + "bidder 0 0;".repeat(7));
+        for (int i = 0; i < 7; i++) last.append("sort % 10 1;sort % 20 1;sort % 10 9;".replace("%", "" + i));
+        s.due("the last of 2187 rows", s.with(last.toString()).high(0), 0);
+        // By harm, SCORES 2, 2, 1: BAR 0 takes 6 + 1, BAR 1 takes 6 + 2, BAR 2 takes 8.
+        s.due("the least of 1 and 2", s.with("board 4;board 2;bidder 1 1;bidder 1 2;bidder 1 1;mark 2 2;way harm;").high(0), 1);
+        // Each time anew.
+        RoadBoards three = s.with("board 9;bidder 1 99;", "board 9;bidder 1 99;way own;", "board 1;bidder 1 5;");
+        int[] highs = {99, 0, 5};
+        for (int n = 0; n < 6; n++) s.due("high(" + n % 3 + ")", three.high(n % 3), highs[n % 3]);
         s.says("Promise 26", "HIGH BAR. NONE: there is none such.");
         RoadBoards x = s.with("board 9;bidder 1 7;");
         for (int n : NO_SALES) s.due("high(" + n + ")", x.high(n), -1);
@@ -300,6 +330,11 @@ public final class BoundariesOfWorthsTest {
         s.due("0 has paid 15", v.day(0, 1, 10), 20);
         s.due("2 stands where 1 did", v.day(0, 1, 21), 2);
         s.due("1 has paid nothing", v.day(0, 1, 11), 14);
+        StringBuilder poor = new StringBuilder("board 9;" + "bidder 9 9;".repeat(7));
+        for (int i = 0; i < 7; i++) poor.append("purse ").append(i).append(" 8;");
+        RoadBoards seven = s.with(poor.toString());
+        s.due("seven go on one day", seven.day(0, 1, 20), -1);
+        for (int i = 0; i < 7; i++) s.due("spent(0, " + i + ")", seven.spent(0, i), 1);
     }
 
     private static void dayAsked() {
@@ -373,6 +408,16 @@ public final class BoundariesOfWorthsTest {
         String chain = "board 0;".repeat(6) + "bidder 0 0;".repeat(6) + "friend 0 5 more 999;friend 5 1 more 999;friend 1 4 more 999;"
             + "friend 4 2 more 999;friend 2 3 more 999;";
         dueBeside("five times 999", chain, 4995, 0, 5, 1, 4, 2, 3);
+        // BEST knows neither FRIENDS nor FOES, whatever was asked ahead.
+        RoadBoards after = s.with(two + "friend 0 1 less 7;", two + "foe 0 1;");
+        for (int n = 0; n < 2; n++) {
+            s.due("beside(" + n + ", 0)", after.beside(n, 0), 6);
+            s.due("best(" + n + ", 0)", after.best(n, 0), 12);
+            s.due("beside(" + n + ", 11)", after.beside(n, 11), NOTHING);
+            s.due("tells(" + n + ", 1, 2, true)", after.tells(n, 1, 2, true), 1);
+            s.due("beside(" + n + ", 0)", after.beside(n, 0), 6);
+            s.due("truly(" + n + ", 1)", after.truly(n, 1), 0);
+        }
         s.says("Promise 29", "BESIDE, what as best(), but not 1. -100000: nobody, there is none such, or for another what.");
         RoadBoards x = s.with(three);
         s.due("nobody", x.beside(0, 12), NOTHING);
@@ -470,6 +515,8 @@ public final class BoundariesOfWorthsTest {
         s.says("Terms 4", "BREAKS: the first BIDDER of those to whom it is below 0.");
         RoadBoards x = s.with("board 10;bidder 9 5;way harm;");
         s.due("-10", x.breaks(0), 0);
+        s.due("-1", s.with("board 1;bidder 9 5;way harm;").spared(0, 0), -1);
+        s.due("-1", s.with("board 1;bidder 9 5;way harm;").breaks(0), 0);
         x.rule(0, 2, 1);
         s.due("0", x.breaks(0), -1);
         RoadBoards y = s.with("board 9;board 5;board 4;board 1;bidder 9 3;bidder 8 2;bidder 7 1;bidder 9 0;extra 1 0 less 70;way own;");
