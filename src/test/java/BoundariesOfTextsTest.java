@@ -301,6 +301,8 @@ public final class BoundariesOfTextsTest {
         fault(OK + "foe 0 1;bidder 1 1;", 2, 25);
         fault(OK + "foe 1 0;bidder 1 1;", 2, 23);
         fault(OK + "purse 9999 1;", 2, 25);
+        fault(TWO + "friend 2 0 more 1;", 2, TWO.length() + 7);
+        fault(TWO + "friend 0 2 more 1;", 2, TWO.length() + 9);
         fine("board 1;" + SEVEN + "mark 6 1;purse 6 1;sort 6 1 1;foe 6 0;foe 0 6;friend 6 5 more 1;extra 6 0 less 1;");
         fault("board 1;" + SEVEN + "mark 7 1;", 2, 90);
         fault("board 1;" + SEVEN + "foe 7 0;", 2, 89);
